@@ -1,0 +1,49 @@
+/** Counts answers that are not as due, and ends the test with exit code 1 if there was one. */
+final class Checks {
+    private static final int MOST_SHOWN = 40;
+    private int made;
+    private int wrong;
+
+    void due(String call, long got, long want) {
+        made++;
+        if (got != want) {
+            wrong++;
+            if (wrong <= MOST_SHOWN) {
+                System.out.println(call + " answered " + got + ", due is " + want);
+            }
+        }
+    }
+
+    void holds(String what, boolean holds) {
+        due(what, holds ? 1 : 0, 1);
+    }
+
+    boolean allRight() {
+        return wrong == 0;
+    }
+
+    void finish(String test) {
+        System.out.println(test + ": " + made + " answers, " + wrong + " wrong");
+        if (wrong > 0 || made == 0) {
+            System.exit(1);
+        }
+    }
+
+    /** Puts a text in place of the one that there is. */
+    static void write(GradeGraph graph, String text) {
+        graph.clearText();
+        for (int index = 0; index < text.length(); index++) {
+            graph.append(text.charAt(index));
+        }
+    }
+
+    /** A new graph with the nodes of a text. */
+    static GradeGraph built(String text) {
+        GradeGraph graph = new GradeGraph();
+        write(graph, text);
+        if (graph.build() < 0) {
+            throw new IllegalStateException("no graph can be built from " + text);
+        }
+        return graph;
+    }
+}
