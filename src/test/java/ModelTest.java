@@ -1,6 +1,6 @@
 /** Runs of calls on a GradeGraph and on a Model: all answers of the two are the same. */
 public final class ModelTest {
-    private static final int RUNS = 3000;
+    private static final int RUNS = 2000;
     private static final int CALLS = 512;
     private static final int NONE = GradeGraph.NONE;
 
