@@ -34,8 +34,7 @@ public final class GradeGraph {
 
     private final Graph graph = new Graph();
     private final Cache cache = new Cache();
-    private final Text text = new Text();
-    private final Reader reader = new Reader(text, graph);
+    private final Reader reader = new Reader();
     private final Graph[] slots = new Graph[SLOTS];
     private final boolean[] saved = new boolean[SLOTS];
     private final int[] black = new int[PICTURE_SIZE];
@@ -58,9 +57,6 @@ public final class GradeGraph {
     public int addNode(int kind) {
         if (!isIn(kind, SOURCE, BLEND)) {
             return BAD_VALUE;
-        }
-        if (graph.size >= MOST_NODES) {
-            return FULL;
         }
         return graph.add(kind);
     }
@@ -239,31 +235,27 @@ public final class GradeGraph {
         if (!isIn(letter, 0, LAST_LETTER)) {
             return BAD_VALUE;
         }
-        if (text.length >= TEXT_ROOM) {
-            return FULL;
-        }
-        text.put(letter);
-        return text.length;
+        return reader.text.put(letter);
     }
 
     public int clearText() {
-        int before = text.length;
-        text.length = 0;
+        int before = reader.text.length;
+        reader.text.empty();
         return before;
     }
 
     public int faultPosition() {
-        reader.read();
+        reader.read(graph.size);
         return reader.faulty ? reader.position : NONE;
     }
 
     public int faultDepth() {
-        reader.read();
-        return reader.faulty ? text.openAhead(reader.position) : NONE;
+        reader.read(graph.size);
+        return reader.faulty ? reader.text.openAhead(reader.position) : NONE;
     }
 
     public int build() {
-        int number = reader.read();
+        int number = reader.read(graph.size);
         if (reader.faulty) {
             return NOT_POSSIBLE;
         }
@@ -511,6 +503,7 @@ public final class GradeGraph {
             size = 0;
         }
 
+        /** Adds a node and returns its number, or FULL. */
         int add(int kind) {
             if (size >= MOST_NODES) {
                 return FULL;
@@ -873,11 +866,18 @@ public final class GradeGraph {
         private final byte[] bytes = new byte[TEXT_ROOM];
         int length;
 
-        void put(int letter) {
-            if (isIn(length, 0, TEXT_ROOM - 1)) {
-                bytes[length] = (byte) letter;
-                length++;
+        /** Adds a byte and returns the length then, or FULL. */
+        int put(int letter) {
+            if (length >= TEXT_ROOM) {
+                return FULL;
             }
+            bytes[length] = (byte) letter;
+            length++;
+            return length;
+        }
+
+        void empty() {
+            length = 0;
         }
 
         /** The byte at a position, or END behind the last one. */
@@ -910,26 +910,26 @@ public final class GradeGraph {
         private static final int DEEPEST = 6;
         private static final int MOST_DIGITS = 3;
 
-        private final Text text;
-        private final Graph graph;
+        final Text text = new Text();
         private final int[] numbers = new int[MOST_PARAMETERS];
         /** The nodes of the text, as far as there could be room for them. */
         final Node[] drafts = new Node[MOST_NODES];
         /** The number of the nodes of the text, also of those that are no drafts. */
         int found;
+        /** The number of the nodes that there are already. */
+        private int known;
         int position;
         boolean faulty;
 
-        Reader(Text text, Graph graph) {
-            this.text = text;
-            this.graph = graph;
+        Reader() {
             for (int index = 0; index < MOST_NODES; index++) {
                 drafts[index] = new Node();
             }
         }
 
         /** Reads the whole text; returns the number that the node of its expression is to have. */
-        int read() {
+        int read(int nodes) {
+            known = nodes;
             found = 0;
             position = 0;
             faulty = false;
@@ -948,7 +948,7 @@ public final class GradeGraph {
             }
             position++;
             expect('(');
-            int number = kind == REFERENCE ? readNumber(0, graph.size - 1) : newNode(kind, depth + 1);
+            int number = kind == REFERENCE ? readNumber(0, known - 1) : newNode(kind, depth + 1);
             expect(')');
             return number;
         }
@@ -976,7 +976,7 @@ public final class GradeGraph {
                 }
                 numbers[index] = readNumber(Kinds.lowest(kind, index), Kinds.highest(kind, index));
             }
-            int number = graph.size + found;
+            int number = known + found;
             if (found < MOST_NODES) {
                 fill(drafts[found], kind, first, second, third);
             }

@@ -84,6 +84,18 @@ public final class GraphTest {
         due("3: addNode() to 12", graph.addNode(SOURCE), FULL);
         due("3: a kind that is none comes first", graph.addNode(7), BAD_VALUE);
         due("3: nodes()", graph.nodes(), 12);
+        graph.setRange(0, 3, 4);
+        graph.set(0, 0, 9);
+        graph.connect(1, 0, 11);
+        graph.clear();
+        graph.addNode(SOURCE);
+        graph.addNode(GAIN);
+        due("3: the range at first", graph.node(0, 1), 0);
+        due("3: the range at first", graph.node(0, 2), 99);
+        due("3: the parameter at first", graph.parameter(0, 0), 0);
+        due("3: without an input", graph.input(1, 0), NONE);
+        due("3: its place", graph.node(1, 4), 1);
+        due("3: its depth", graph.node(1, 5), 0);
         graph.clear();
         graph.addNode(BLEND);
         for (int input = 0; input < 3; input++) {

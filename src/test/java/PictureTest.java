@@ -1,3 +1,6 @@
+import java.util.Arrays;
+import java.util.IntSummaryStatistics;
+
 /** Promises 11 to 14: the values of pictures, and what is counted of them. */
 public final class PictureTest {
     private static final int BAD_INDEX = GradeGraph.BAD_INDEX, BAD_VALUE = GradeGraph.BAD_VALUE, NONE = GradeGraph.NONE;
@@ -16,7 +19,9 @@ public final class PictureTest {
         promise11Errors();
         promise12Scope();
         promise13Sum();
+        promise13SumOfEachChannel();
         promise14Compare();
+        promise14CompareAtOnePlace();
         CHECKS.finish("PictureTest");
     }
 
@@ -259,6 +264,46 @@ public final class PictureTest {
         due("13: sum(0, 0, 0, 4)", graph.sum(0, 0, 0, 4), BAD_VALUE);
         due("13: sum(0, 0, 0, -1)", graph.sum(0, 0, 0, -1), BAD_VALUE);
         due("13: errors do not ask", graph.count(1) + graph.count(2), asked);
+    }
+
+    private static void promise13SumOfEachChannel() {
+        for (int seed = 0; seed < 40; seed++) {
+            GradeGraph graph = Checks.built("i(s(" + seed + "))");
+            for (int channel = 0; channel < 3; channel++) {
+                int frame = 97 * seed % 100;
+                int[] values = new int[32];
+                for (int place = 0; place < 32; place++) {
+                    values[place] = source(seed, frame, place % 8, place / 8, channel);
+                }
+                IntSummaryStatistics due = Arrays.stream(values).summaryStatistics();
+                due("13: the least", graph.sum(0, frame, channel, 0), due.getMin());
+                due("13: the greatest", graph.sum(0, frame, channel, 1), due.getMax());
+                due("13: the sum", graph.sum(0, frame, channel, 2), due.getSum());
+                due("13: the different ones", graph.sum(0, frame, channel, 3), Arrays.stream(values).distinct().count());
+                due("13: the inverse's least", graph.sum(1, frame, channel, 0), 255 - due.getMax());
+                due("13: the inverse's greatest", graph.sum(1, frame, channel, 1), 255 - due.getMin());
+                due("13: the inverse's sum", graph.sum(1, frame, channel, 2), 8160 - due.getSum());
+            }
+        }
+    }
+
+    private static void promise14CompareAtOnePlace() {
+        // the mask is 255 at one place, and the gain leaves one channel of it
+        GradeGraph graph = Checks.built("g(k(s(0),0,0,0,0),0)");
+        graph.addNode(GradeGraph.INVERT);
+        graph.setRange(3, 1, 1);
+        for (int channel = 0; channel < 3; channel++) {
+            graph.set(2, channel, 16);
+            for (int place = 0; place < 32; place++) {
+                int value = source(0, 0, place % 8, place / 8, 0);
+                graph.set(1, 1, value);
+                graph.set(1, 2, value);
+                due("14: place " + place + " in " + channel, graph.compare(2, 3, 0), 255);
+                due("14: the other way", graph.compare(3, 2, 0), 255);
+            }
+            graph.set(2, channel, 0);
+            due("14: no place", graph.compare(2, 3, 0), 0);
+        }
     }
 
     private static void promise14Compare() {

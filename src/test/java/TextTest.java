@@ -212,6 +212,14 @@ public final class TextTest {
     }
 
     private static void promise21FaultDepth() {
+        GradeGraph graph = new GradeGraph();
+        due("21: of nothing", graph.faultDepth(), 0);
+        Checks.write(graph, "i(i(s(1");
+        due("21: without another call", graph.faultDepth(), 3);
+        graph.append(')');
+        due("21: one is closed", graph.faultDepth(), 2);
+        Checks.write(graph, "s(1)");
+        due("21: no fault any more", graph.faultDepth(), NONE);
         fault(1, "i(i(s(1", 7, 3);
         fault(1, "i(i(s(1)", 8, 2);
         fault(1, "i(i(s(1))", 9, 1);
