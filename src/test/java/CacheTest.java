@@ -227,5 +227,7 @@ public final class CacheTest {
         }
         due("two nodes of twelve", graph.compare(0, 11, 2) >= 0 ? 1 : 0, 1);
         due("compare() asks for the first one first", graph.count(1), 44 + 23);
+        due("a circle of the last node", graph.connect(1, 1, 11), GradeGraph.NOT_POSSIBLE);
+        due("twelve pictures depend on the first node", graph.set(0, 0, 9), 12);
     }
 }

@@ -254,6 +254,10 @@ public final class PictureTest {
         due("13: the greatest of 255", graph.sum(2, 5, 1, 1), 255);
         due("13: the sum of 255", graph.sum(2, 5, 1, 2), 8160);
         due("13: one value", graph.sum(2, 5, 1, 3), 1);
+        graph.setRange(2, 0, 4);
+        for (int what = 0; what < 4; what++) {
+            due("13: the black picture", graph.sum(2, 5, 1, what), what == 3 ? 1 : 0);
+        }
         int asked = graph.count(1) + graph.count(2);
         due("13: sum(3, 0, 0, 0)", graph.sum(3, 0, 0, 0), BAD_INDEX);
         due("13: sum(-1, 0, 0, 9)", graph.sum(-1, 0, 0, 9), BAD_INDEX);
