@@ -333,11 +333,14 @@ public final class GradeGraph {
             return black;
         }
         Picture kept = cache.find(number, frame);
-        if (kept != null) {
-            cache.hit(kept);
-            return kept.values;
+        if (kept == null) {
+            return make(graph.nodes[number], number, frame, depth);
         }
-        Node node = graph.nodes[number];
+        cache.hit(kept);
+        return kept.values;
+    }
+
+    private int[] make(Node node, int number, int frame, int depth) {
         boolean inRange = isIn(frame, node.first, node.last);
         int[] a = ask(node.inputs[0], frame, depth + 1);
         int[] b = inRange ? ask(node.inputs[1], frame, depth + 1) : black;

@@ -3,13 +3,20 @@ final class Checks {
     private static final int MOST_SHOWN = 40;
     private int made;
     private int wrong;
+    private String sentence = "";
+
+    /** What is checked from here on is due by this sentence of the document. */
+    void sentence(String words) {
+        sentence = words;
+    }
 
     void due(String call, long got, long want) {
         made++;
         if (got != want) {
             wrong++;
             if (wrong <= MOST_SHOWN) {
-                System.out.println(call + " answered " + got + ", due is " + want);
+                String reason = sentence.isEmpty() ? "" : ": \"" + sentence + "\"";
+                System.out.println(call + " answered " + got + ", due is " + want + reason);
             }
         }
     }

@@ -1,7 +1,11 @@
 /** Runs of calls on a GradeGraph and on a Model: all answers of the two are the same. */
 public final class ModelTest {
-    private static final int RUNS = 2000;
+    private static final int RUNS = 6000;
+    /** What comes behind this many calls is free. */
     private static final int CALLS = 512;
+    /** No text that is written in a step is longer: the last bytes of these find the text full. */
+    private static final int MOST_LETTERS = 84;
+    private static final int MOST_CALLS_OF_A_STEP = MOST_LETTERS + 5;
     private static final int NONE = GradeGraph.NONE;
 
     private final Checks checks;
@@ -10,6 +14,7 @@ public final class ModelTest {
     private final GradeGraph graph = new GradeGraph();
     private final Model model = new Model();
     private long seed;
+    private int calls;
 
     private ModelTest(Checks checks, int run) {
         this.checks = checks;
@@ -22,8 +27,11 @@ public final class ModelTest {
         Checks checks = new Checks();
         for (int run = 0; run < RUNS && checks.allRight(); run++) {
             ModelTest test = new ModelTest(checks, run);
-            for (int call = 0; call < CALLS; call++) {
+            while (test.calls <= CALLS - MOST_CALLS_OF_A_STEP) {
                 test.step();
+            }
+            while (test.calls < CALLS) {
+                test.look();
             }
         }
         checks.finish("ModelTest");
@@ -57,6 +65,7 @@ public final class ModelTest {
     }
 
     private void due(String call, long got, long want) {
+        calls++;
         checks.due("run " + run + ": " + call, got, want);
     }
 
@@ -74,8 +83,10 @@ public final class ModelTest {
             tell();
         } else if (choice < 80) {
             keep();
-        } else if (choice < 95) {
+        } else if (choice < 95 && (style == 3 || pick(20) == 0)) {
             read();
+        } else if (choice < 95) {
+            look();
         } else {
             due("checksum()", graph.checksum(), model.checksum());
         }
@@ -183,7 +194,7 @@ public final class ModelTest {
         if (pick(2) == 0) {
             spoil(text);
         }
-        for (int index = 0; index < text.length(); index++) {
+        for (int index = 0; index < text.length() && index < MOST_LETTERS; index++) {
             int letter = odd(text.charAt(index), 0, 127);
             due("append(" + letter + ")", graph.append(letter), model.append(letter));
         }
