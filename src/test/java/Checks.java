@@ -44,6 +44,11 @@ final class Checks {
         }
     }
 
+    /** What a source has in its range, by the document's words. */
+    static int source(int seed, int frame, int x, int y, int channel) {
+        return (7 * seed + 31 * x + 17 * y + 11 * frame + 53 * channel + x * y * frame) % 256;
+    }
+
     /** A new graph with the nodes of a text. */
     static GradeGraph built(String text) {
         GradeGraph graph = new GradeGraph();

@@ -21,6 +21,7 @@ public final class EdgeCacheTest {
         voidByInput();
         voidByRange();
         voidByRangeOfSource();
+        voidOfAFullCache();
         promise15NoRoom();
         promise15Returns();
         promise16DoesNotUseIt();
@@ -30,6 +31,7 @@ public final class EdgeCacheTest {
         promise17Dropped();
         promise17Void();
         promise17Returns();
+        call512();
         CHECKS.finish("EdgeCacheTest");
     }
 
@@ -390,6 +392,35 @@ public final class EdgeCacheTest {
         kept("what is made of it", graph, 1, frames, 0, 1, 1, 0);
     }
 
+    private static void voidOfAFullCache() {
+        CHECKS.sentence("that is, drops from the cache");
+        for (int room : new int[] {12, 48}) {
+            GradeGraph graph = Checks.built("s(1)");
+            graph.setRoom(room);
+            look(graph, 0, 0, 59);
+            due("all of a full room of " + room, graph.set(0, 0, 1), room);
+            due("nothing is left", graph.set(0, 0, 1), 0);
+            counts("the room is empty", graph, 0, 0, 60, 60 - room, room);
+            look(graph, 0, 0, room - 1);
+            counts("it is filled again", graph, room, 0, 60 + room, 60 - room, room);
+        }
+        // pictures that were dropped for other reasons do not become void too
+        GradeGraph graph = Checks.built("s(1)");
+        graph.save(0);
+        graph.setRoom(48);
+        look(graph, 0, 0, 29);
+        graph.setRoom(12);
+        due("those that are left", graph.set(0, 0, 1), 12);
+        look(graph, 0, 0, 5);
+        graph.restore(0);
+        due("none after restore()", graph.set(0, 0, 1), 0);
+        look(graph, 0, 0, 5);
+        graph.clear();
+        graph.addNode(SOURCE);
+        due("none after clear()", graph.set(0, 0, 1), 0);
+        due("void in all", graph.count(4), 12);
+    }
+
     private static void promise15NoRoom() {
         CHECKS.sentence("If it has more pictures, those that were used longest ago are dropped, for there is no room.");
         GradeGraph graph = Checks.built("s(1)");
@@ -414,6 +445,13 @@ public final class EdgeCacheTest {
         graph = new GradeGraph();
         graph.setRoom(12);
         counts("nothing to drop", graph, 0, 0, 0, 0, 0);
+        // what came last can be what was used longest ago
+        graph = Checks.built("s(1)");
+        graph.setRoom(20);
+        look(graph, 0, 0, 19);
+        look(graph, 0, 0, 9);
+        graph.setRoom(12);
+        kept("the first ten were used again", graph, 0, new int[] {0, 9, 10, 14, 17, 18, 19}, 1, 1, 0, 0, 0, 1, 1);
     }
 
     private static void promise15Returns() {
@@ -536,5 +574,16 @@ public final class EdgeCacheTest {
         for (int far : FAR) {
             due("count(" + far + ")", graph.count(far), BAD_INDEX);
         }
+    }
+
+    private static void call512() {
+        CHECKS.sentence("An object is used for at most 512 calls after it has been made");
+        GradeGraph graph = new GradeGraph();
+        graph.addNode(SOURCE);
+        for (int call = 2; call < 512; call++) {
+            int frame = call % 100;
+            due("call " + call, graph.value(0, frame, 0, 0, 0), 11 * frame % 256);
+        }
+        due("call 512", graph.count(2), 510);
     }
 }

@@ -245,8 +245,10 @@ public final class EdgeErrorTest {
         graph.save(1);
         long[] before = nodesOf(graph);
         graph.clear();
-        Checks.write(graph, "k(s(5),1,2,3,4)");
-        graph.build();
+        for (int node = 0; node < 12; node++) {
+            graph.addNode(BLEND - node % 7);
+            graph.setRange(node, 50, 60);
+        }
         due("restore(1)", graph.restore(1), 12);
         long[] then = nodesOf(graph);
         for (int index = 0; index < before.length; index++) {

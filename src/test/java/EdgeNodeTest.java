@@ -18,6 +18,7 @@ public final class EdgeNodeTest {
         dependsByItsInputs();
         order();
         orderLexicographicallyFirst();
+        orderOfEveryChain();
         promise1WithoutNodes();
         promise1EmptyCache();
         promise1EmptyText();
@@ -211,6 +212,29 @@ public final class EdgeNodeTest {
         due("place of 2", graph.node(2, 4), 2);
     }
 
+    private static void orderOfEveryChain() {
+        CHECKS.sentence("A node depends on another one if it is the same, or one of its inputs is a node that depends on it.");
+        // two nodes apart, and a chain of four in each order of their numbers
+        for (int code = 0; code < 256; code++) {
+            int[] chain = {2 + code % 4, 2 + code / 4 % 4, 2 + code / 16 % 4, 2 + code / 64};
+            int numbers = 1 << chain[0] | 1 << chain[1] | 1 << chain[2] | 1 << chain[3];
+            if (Integer.bitCount(numbers) < 4) {
+                continue;
+            }
+            GradeGraph graph = nodes(BLEND, BLEND, BLEND, BLEND, BLEND, BLEND);
+            for (int link = 1; link < 4; link++) {
+                due("connect()", graph.connect(chain[link], link - 1, chain[link - 1]), 0);
+            }
+            for (int link = 0; link < 4; link++) {
+                String call = "link " + link + " of " + code;
+                due(call + ": dependents", graph.node(chain[link], 3), 4 - link);
+                due(call + ": place", graph.node(chain[link], 4), 2 + link);
+                due(call + ": depth", graph.node(chain[link], 5), link);
+                due(call + ": a circle", graph.connect(chain[0], 0, chain[link]), NOT_POSSIBLE);
+            }
+        }
+    }
+
     private static void promise1WithoutNodes() {
         CHECKS.sentence("Creates a graph without nodes");
         GradeGraph graph = new GradeGraph();
@@ -327,14 +351,11 @@ public final class EdgeNodeTest {
     private static void promise3Fresh() {
         CHECKS.sentence("Adds a node without inputs, with the parameters that it has at first.");
         for (int kind = SOURCE; kind <= BLEND; kind++) {
-            GradeGraph graph = Checks.built("b(s(9),s(8),s(7))");
             // all that a node can keep is put where the new ones will stand
+            GradeGraph graph = Checks.built("k(k(s(9),2,9,8,7),2,9,8,7)");
             for (int node = 0; node < 3; node++) {
                 graph.setRange(node, 3, 4);
             }
-            graph.clear();
-            Checks.write(graph, "k(k(s(9),2,9,8,7),2,9,8,7)");
-            graph.build();
             graph.clear();
             graph.addNode(SOURCE);
             due("number 1", graph.addNode(kind), 1);
@@ -580,6 +601,9 @@ public final class EdgeNodeTest {
         }
         graph.connect(4, 2, 0);
         due("by the last input alone", graph.node(4, 5), 1);
+        GradeGraph apart = nodes(SOURCE, SOURCE, SOURCE, INVERT);
+        apart.connect(3, 0, 2);
+        due("the depth is not the place", apart.node(3, 5), 1);
         due("a chain of twelve", chain(1).node(11, 5), 11);
     }
 

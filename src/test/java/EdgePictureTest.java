@@ -29,6 +29,7 @@ public final class EdgePictureTest {
         keyDistanceWithinTheSoftness();
         keyLowestGreaterThanHighest();
         blendMasks();
+        twelveDeep();
         promise11();
         promise12Parts();
         promise12();
@@ -42,10 +43,6 @@ public final class EdgePictureTest {
 
     private static void due(String call, long got, long want) {
         CHECKS.due(call, got, want);
-    }
-
-    private static int source(int seed, int frame, int x, int y, int channel) {
-        return (7 * seed + 31 * x + 17 * y + 11 * frame + 53 * channel + x * y * frame) % 256;
     }
 
     /** The seed with which a source has this value in frame 0 at the first place of channel 0. */
@@ -76,7 +73,7 @@ public final class EdgePictureTest {
             for (int y = 0; y < 4; y++) {
                 for (int channel = 0; channel < 3; channel++) {
                     String call = "value(0, 9, " + x + ", " + y + ", " + channel + ")";
-                    due(call, graph.value(0, 9, x, y, channel), source(6, 9, x, y, channel));
+                    due(call, graph.value(0, 9, x, y, channel), Checks.source(6, 9, x, y, channel));
                 }
             }
         }
@@ -107,8 +104,8 @@ public final class EdgePictureTest {
     private static void frames() {
         CHECKS.sentence("Frames are numbered from 0 to 99.");
         GradeGraph graph = Checks.built("s(6)");
-        due("frame 0", graph.value(0, 0, 5, 3, 1), source(6, 0, 5, 3, 1));
-        due("frame 99", graph.value(0, 99, 5, 3, 1), source(6, 99, 5, 3, 1));
+        due("frame 0", graph.value(0, 0, 5, 3, 1), Checks.source(6, 0, 5, 3, 1));
+        due("frame 99", graph.value(0, 99, 5, 3, 1), Checks.source(6, 99, 5, 3, 1));
         for (int frame : new int[] {Integer.MIN_VALUE, -1, 100, Integer.MAX_VALUE}) {
             due("value() of frame " + frame, graph.value(0, frame, 0, 0, 0), BAD_INDEX);
             due("scope() of frame " + frame, graph.scope(0, frame, 0, 0), BAD_INDEX);
@@ -279,7 +276,7 @@ public final class EdgePictureTest {
         int[] frames = {0, 39, 40, 50, 51, 99};
         for (int frame : frames) {
             boolean inside = 40 <= frame && frame <= 50;
-            due("frame " + frame, graph.value(0, frame, 2, 1, 0), inside ? source(5, frame, 2, 1, 0) : 0);
+            due("frame " + frame, graph.value(0, frame, 2, 1, 0), inside ? Checks.source(5, frame, 2, 1, 0) : 0);
             due("the sum in frame " + frame, graph.sum(0, frame, 1, 2) > 0 ? 1 : 0, inside ? 1 : 0);
         }
     }
@@ -298,8 +295,8 @@ public final class EdgePictureTest {
             int x = place % 8;
             int y = place / 8;
             due("amount 0", graph.value(1, 3, x, y, 0), 0);
-            due("amount 64", graph.value(1, 3, x, y, 1), Math.min(255, 4 * source(9, 3, x, y, 1)));
-            due("amount 8", graph.value(1, 3, x, y, 2), source(9, 3, x, y, 2) / 2);
+            due("amount 64", graph.value(1, 3, x, y, 1), Math.min(255, 4 * Checks.source(9, 3, x, y, 1)));
+            due("amount 8", graph.value(1, 3, x, y, 2), Checks.source(9, 3, x, y, 2) / 2);
         }
     }
 
@@ -317,7 +314,7 @@ public final class EdgePictureTest {
             int y = place / 8;
             due("amount -255", graph.value(1, 3, x, y, 0), 0);
             due("amount 255", graph.value(1, 3, x, y, 1), 255);
-            due("amount -1", graph.value(1, 3, x, y, 2), Math.max(0, source(9, 3, x, y, 2) - 1));
+            due("amount -1", graph.value(1, 3, x, y, 2), Math.max(0, Checks.source(9, 3, x, y, 2) - 1));
         }
     }
 
@@ -341,7 +338,7 @@ public final class EdgePictureTest {
                 int number = 0;
                 for (int column = x - reach; column <= x + reach; column++) {
                     if (0 <= column && column <= 7) {
-                        total += source(21, 6, column, y, place / 32);
+                        total += Checks.source(21, 6, column, y, place / 32);
                         number++;
                     }
                 }
@@ -356,7 +353,7 @@ public final class EdgePictureTest {
         // a mask that is 255 at one place alone, where the row or the channel ends
         int[][] corners = {{7, 0}, {0, 1}, {7, 1}, {0, 2}, {7, 3}, {0, 0}};
         for (int[] corner : corners) {
-            int value = source(0, 0, corner[0], corner[1], 0);
+            int value = Checks.source(0, 0, corner[0], corner[1], 0);
             GradeGraph graph = Checks.built("l(k(s(0),0," + value + "," + value + ",0),3)");
             for (int place = 0; place < 32; place++) {
                 int x = place % 8;
@@ -448,6 +445,25 @@ public final class EdgePictureTest {
         due("the mask is that of the channel", Checks.built("b(s(0),i(s(0)),s(0))").value(4, 0, 0, 0, 1), 83);
     }
 
+    private static void twelveDeep() {
+        CHECKS.sentence("Nodes make pictures, frame by frame, from those of other nodes");
+        // an inverse of none, that is 255, is handed on by eleven blends
+        int[][] inputs = {{-1, NONE, NONE}, {NONE, -1, -1}, {NONE, 0, -1}, {NONE, -1, 0}, {0, -1, 0}, {-1, -1, -1}};
+        for (int[] turn : inputs) {
+            GradeGraph graph = new GradeGraph();
+            graph.addNode(INVERT);
+            for (int node = 1; node < 12; node++) {
+                graph.addNode(BLEND);
+                for (int input = 0; input < 3; input++) {
+                    graph.connect(node, input, turn[input] == -1 ? node - 1 : turn[input]);
+                }
+            }
+            due("the last one of twelve", graph.value(11, 50, 3, 3, 2), 255);
+            graph.setRange(0, 50, 50);
+            due("in another frame", graph.value(11, 51, 3, 3, 2), 0);
+        }
+    }
+
     private static void promise11() {
         CHECKS.sentence("value: Returns the value; BAD_INDEX.");
         GradeGraph graph = Checks.built("s(5)");
@@ -481,6 +497,14 @@ public final class EdgePictureTest {
         due("one value of 255", graph.scope(1, 0, 2, 15), 1);
         due("31 values of 0", graph.scope(1, 0, 2, 0), 31);
         due("no value between", graph.scope(1, 0, 2, 7), 0);
+        GradeGraph three = plain(0);
+        three.set(0, 1, 16);
+        three.set(0, 2, 32);
+        for (int channel = 0; channel < 3; channel++) {
+            for (int part = 0; part < 3; part++) {
+                due("part " + part + " of channel " + channel, three.scope(0, 0, channel, part), part == channel ? 32 : 0);
+            }
+        }
         due("part -1", graph.scope(1, 0, 0, -1), BAD_INDEX);
         due("part 16", graph.scope(1, 0, 0, 16), BAD_INDEX);
         due("channel 3", graph.scope(1, 0, 3, 0), BAD_INDEX);
@@ -504,10 +528,22 @@ public final class EdgePictureTest {
             }
         }
         due("32 different ones", Checks.built("s(0)").sum(0, 0, 0, 3), 32);
+        // a gain of 0 leaves one channel of the source
+        for (int channel = 0; channel < 3; channel++) {
+            GradeGraph graph = Checks.built("g(t(s(0),1),0)");
+            graph.set(2, channel, 16);
+            for (int other = 0; other < 3; other++) {
+                String call = "channel " + other + " of " + channel;
+                due(call + ": a sum", graph.sum(2, 0, other, 2) > 0 ? 1 : 0, other == channel ? 1 : 0);
+                due(call + ": a least value", graph.sum(2, 0, other, 0) > 0 ? 1 : 0, other == channel ? 1 : 0);
+                due(call + ": a greatest value", graph.sum(2, 0, other, 1) > 0 ? 1 : 0, other == channel ? 1 : 0);
+                due(call + ": different values", graph.sum(2, 0, other, 3) > 1 ? 1 : 0, other == channel ? 1 : 0);
+            }
+        }
         // one value at each place in turn is unlike the others
         GradeGraph mask = Checks.built("i(k(s(0),0,0,0,0))");
         for (int place = 0; place < 32; place++) {
-            int value = source(0, 0, place % 8, place / 8, 0);
+            int value = Checks.source(0, 0, place % 8, place / 8, 0);
             mask.set(1, 1, value);
             mask.set(1, 2, value);
             due("the least but for place " + place, mask.sum(1, 0, 1, 0), 0);
@@ -550,6 +586,16 @@ public final class EdgePictureTest {
                 due(-amount + " in channel " + channel, graph.compare(1, 0, 0), amount);
             }
             graph.set(1, channel, 0);
+        }
+        // a mask that is 255 at the first place of all, then at the last one, and nothing
+        String[] masks = {"k(s(0),0,0,0,0)", "k(s(0),2,118,118,0)"};
+        for (int end = 0; end < 2; end++) {
+            GradeGraph mask = Checks.built("g(" + masks[end] + ",0)");
+            mask.addNode(GAIN);
+            mask.set(2, 2 * end, 16);
+            due("at the end " + end, mask.compare(2, 3, 0), 255);
+            mask.set(2, 2 * end, 0);
+            due("nowhere", mask.compare(2, 3, 0), 0);
         }
         // 0 against 9 in channel 0, 20 against 0 in channel 2
         graph.set(0, 2, 20);

@@ -29,10 +29,6 @@ public final class PictureTest {
         CHECKS.due(call, got, want);
     }
 
-    private static int source(int seed, int frame, int x, int y, int channel) {
-        return (7 * seed + 31 * x + 17 * y + 11 * frame + 53 * channel + x * y * frame) % 256;
-    }
-
     private static void promise11Source() {
         GradeGraph graph = Checks.built("s(999)");
         due("11: value(0, 99, 7, 3, 2)", graph.value(0, 99, 7, 3, 2), 39);
@@ -43,7 +39,7 @@ public final class PictureTest {
             int x = place % 8;
             int y = place / 8 % 4;
             int channel = place / 32;
-            due("11: source " + place, graph.value(0, 42, x, y, channel), source(5, 42, x, y, channel));
+            due("11: source " + place, graph.value(0, 42, x, y, channel), Checks.source(5, 42, x, y, channel));
         }
     }
 
@@ -177,12 +173,12 @@ public final class PictureTest {
     private static void promise11OutsideOfRange() {
         GradeGraph graph = Checks.built("i(s(1))");
         graph.setRange(1, 10, 20);
-        due("11: ahead of the range", graph.value(1, 9, 3, 2, 1), source(1, 9, 3, 2, 1));
-        due("11: at its start", graph.value(1, 10, 3, 2, 1), 255 - source(1, 10, 3, 2, 1));
-        due("11: at its end", graph.value(1, 20, 3, 2, 1), 255 - source(1, 20, 3, 2, 1));
-        due("11: behind the range", graph.value(1, 21, 3, 2, 1), source(1, 21, 3, 2, 1));
+        due("11: ahead of the range", graph.value(1, 9, 3, 2, 1), Checks.source(1, 9, 3, 2, 1));
+        due("11: at its start", graph.value(1, 10, 3, 2, 1), 255 - Checks.source(1, 10, 3, 2, 1));
+        due("11: at its end", graph.value(1, 20, 3, 2, 1), 255 - Checks.source(1, 20, 3, 2, 1));
+        due("11: behind the range", graph.value(1, 21, 3, 2, 1), Checks.source(1, 21, 3, 2, 1));
         graph.setRange(0, 15, 15);
-        due("11: a source in its range", graph.value(0, 15, 3, 2, 1), source(1, 15, 3, 2, 1));
+        due("11: a source in its range", graph.value(0, 15, 3, 2, 1), Checks.source(1, 15, 3, 2, 1));
         due("11: a source ahead of its range", graph.value(0, 14, 3, 2, 1), 0);
         due("11: a source behind its range", graph.value(0, 16, 3, 2, 1), 0);
         due("11: the inverse of black", graph.value(1, 16, 3, 2, 1), 255);
@@ -190,7 +186,7 @@ public final class PictureTest {
         due("11: without input 0 outside", graph.value(1, 9, 3, 2, 1), 0);
         graph = Checks.built("b(s(1),s(2),s(3))");
         graph.setRange(3, 0, 0);
-        due("11: a blend outside", graph.value(3, 1, 4, 1, 2), source(1, 1, 4, 1, 2));
+        due("11: a blend outside", graph.value(3, 1, 4, 1, 2), Checks.source(1, 1, 4, 1, 2));
     }
 
     private static void promise11Errors() {
@@ -206,7 +202,7 @@ public final class PictureTest {
         due("11: value(0, 0, 0, 0, -1)", graph.value(0, 0, 0, 0, -1), BAD_INDEX);
         due("11: value(0, 0, 0, 0, 3)", graph.value(0, 0, 0, 0, 3), BAD_INDEX);
         due("11: nothing was asked for", graph.count(2), 0);
-        due("11: the last place", graph.value(0, 99, 7, 3, 2), source(1, 99, 7, 3, 2));
+        due("11: the last place", graph.value(0, 99, 7, 3, 2), Checks.source(1, 99, 7, 3, 2));
         due("11: it was asked for", graph.count(2), 1);
     }
 
@@ -215,7 +211,7 @@ public final class PictureTest {
         for (int channel = 0; channel < 3; channel++) {
             int[] want = new int[16];
             for (int place = 0; place < 32; place++) {
-                want[source(77, 8, place % 8, place / 8, channel) / 16]++;
+                want[Checks.source(77, 8, place % 8, place / 8, channel) / 16]++;
             }
             for (int part = 0; part < 16; part++) {
                 String call = "12: scope(0, 8, " + channel + ", " + part + ")";
@@ -277,7 +273,7 @@ public final class PictureTest {
                 int frame = 97 * seed % 100;
                 int[] values = new int[32];
                 for (int place = 0; place < 32; place++) {
-                    values[place] = source(seed, frame, place % 8, place / 8, channel);
+                    values[place] = Checks.source(seed, frame, place % 8, place / 8, channel);
                 }
                 IntSummaryStatistics due = Arrays.stream(values).summaryStatistics();
                 due("13: the least", graph.sum(0, frame, channel, 0), due.getMin());
@@ -299,7 +295,7 @@ public final class PictureTest {
         for (int channel = 0; channel < 3; channel++) {
             graph.set(2, channel, 16);
             for (int place = 0; place < 32; place++) {
-                int value = source(0, 0, place % 8, place / 8, 0);
+                int value = Checks.source(0, 0, place % 8, place / 8, 0);
                 graph.set(1, 1, value);
                 graph.set(1, 2, value);
                 due("14: place " + place + " in " + channel, graph.compare(2, 3, 0), 255);
