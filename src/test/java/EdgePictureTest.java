@@ -459,6 +459,10 @@ public final class EdgePictureTest {
                 }
             }
             due("the last one of twelve", graph.value(11, 50, 3, 3, 2), 255);
+            due("its values in part 15", graph.scope(11, 60, 0, 15), 32);
+            due("its least value", graph.sum(11, 61, 1, 0), 255);
+            due("its difference from the first one", graph.compare(11, 0, 62), 0);
+            due("the other way", graph.compare(0, 11, 63), 0);
             graph.setRange(0, 50, 50);
             due("in another frame", graph.value(11, 51, 3, 3, 2), 0);
         }
