@@ -15,6 +15,7 @@ public final class EdgeErrorTest {
         noneOnlyIfNoErrorApplies();
         refusedCallsChangeNothing();
         promise23InPlaceOf();
+        promise23TheSlotAlone();
         promise23AllNodes();
         promise23Returns();
         promise24AsTheyWereSaved();
@@ -196,6 +197,22 @@ public final class EdgeErrorTest {
         due("restore(0)", graph.restore(0), 0);
         due("nodes()", graph.nodes(), 0);
         due("the other slot", graph.restore(1), 2);
+    }
+
+    private static void promise23TheSlotAlone() {
+        CHECKS.sentence("Saves all nodes, in place of what the slot keeps.");
+        for (int slot = 0; slot < 2; slot++) {
+            GradeGraph graph = Checks.built("i(s(3))");
+            graph.save(slot);
+            graph.set(0, 0, 44);
+            graph.addNode(KEY);
+            due("save() in the other slot", graph.save(1 - slot), 3);
+            graph.clear();
+            due("restore(" + slot + ")", graph.restore(slot), 2);
+            due("its seed", graph.parameter(0, 0), 3);
+            due("restore(" + (1 - slot) + ")", graph.restore(1 - slot), 3);
+            due("its seed", graph.parameter(0, 0), 44);
+        }
     }
 
     private static void promise23AllNodes() {

@@ -38,6 +38,7 @@ public final class EdgeTextTest {
         promise20();
         promise21();
         promise22Order();
+        promise22Connected();
         promise22StandsFor();
         promise22NoneAdded();
         promise22NoPicture();
@@ -515,6 +516,21 @@ public final class EdgeTextTest {
         node(graph, 9, SHIFT, 8, -100, -100, -100);
         node(graph, 10, SHIFT, 9, -160, -160, -160);
         node(graph, 11, BLEND, 1, 5, 10);
+    }
+
+    private static void promise22Connected() {
+        CHECKS.sentence("Adds the nodes of the expression of the text, connected as it says");
+        GradeGraph graph = sources(2);
+        for (int built = 0; built < 10; built++) {
+            int node = 2 + built;
+            Checks.write(graph, "i(n(" + (built == 0 ? 0 : node - 1) + "))");
+            due("build()", graph.build(), node);
+            due("its depth", graph.node(node, 5), built + 1);
+            due("its place", graph.node(node, 4), node);
+            due("those that depend on node 0", graph.node(0, 3), built + 2);
+            due("those that depend on node 1", graph.node(1, 3), 1);
+            due("a cycle", graph.connect(2, 0, node), GradeGraph.NOT_POSSIBLE);
+        }
     }
 
     private static void promise22StandsFor() {
